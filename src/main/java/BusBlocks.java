@@ -436,7 +436,8 @@ public final class BusBlocks {
             clear();
             int pairs = 0;
             for (int row = 0; row < rows; row++) {
-                if (findsSeat(row)) {
+                seen = 0;
+                if (seat(this, row, 0)) {
                     pairs++;
                 }
             }
@@ -462,18 +463,14 @@ public final class BusBlocks {
             join(row, column);
             rowOf[old] = NONE;
             taken &= ~(1 << old);
-            if (findsSeat(other)) {
+            seen = 0;
+            if (seat(this, other, 0)) {
                 return true;
             }
             open[row] = wasOpen;
             join(row, old);
             join(other, column);
             return false;
-        }
-
-        private boolean findsSeat(int row) {
-            seen = 0;
-            return seat(this, row, 0);
         }
 
         /** Gives the row a column; one that has it already may go on to another one. */
@@ -924,8 +921,13 @@ public final class BusBlocks {
 
         int tell() {
             if (!kept) {
-                answer = segments.count > MOST_SEGMENTS ? TOO_MANY : make();
                 kept = true;
+                answer = NONE;
+                if (segments.count > MOST_SEGMENTS) {
+                    answer = TOO_MANY;
+                } else if (listLawful()) {
+                    answer = fewest();
+                }
             }
             return answer;
         }
@@ -949,29 +951,23 @@ public final class BusBlocks {
             return s == NO_PIECE ? NONE : s;
         }
 
-        private int make() {
-            if (!listLawful()) {
-                return NONE;
-            }
-            Arrays.fill(tooFew, 0L);
-            for (int duties = 0; duties <= segments.count; duties++) {
-                if (doesAll(this, 0, duties, duties)) {
-                    return duties;
-                }
-            }
-            return NONE;
-        }
-
         /** False if some SEGMENT breaks a law alone, and so in any DUTY. */
         private boolean listLawful() {
             listed = 0;
             blockHeads = 0;
             for (int s = 0; s < segments.count; s++) {
+                start[s] = listed;
                 if (!segments.isPiece(s - 1, s)) {
                     blockHeads |= 1 << s;
                 }
-                start[s] = listed;
-                listFrom(s);
+                for (int e = s; e < segments.count; e++) {
+                    if (!segments.isPiece(s, e) || laws.brokenByOne(s, e) != 0) {
+                        // What is too long alone stays so with more SEGMENTS, or a second PIECE.
+                        break;
+                    }
+                    list(packed(bits(s, e), e, NO_PIECE, NO_PIECE));
+                    listSeconds(s, e);
+                }
                 if (listed == start[s]) {
                     return false;
                 }
@@ -980,27 +976,19 @@ public final class BusBlocks {
             return true;
         }
 
-        // A PIECE that is too long stays so with more SEGMENTS, or a second PIECE.
-        private void listFrom(int s) {
-            for (int e = s; e < segments.count; e++) {
-                if (!segments.isPiece(s, e) || laws.brokenByOne(s, e) != 0) {
-                    return;
-                }
-                list(bits(s, e) | e << LAST_AT | NO_PIECE << SECOND_FIRST_AT | NO_PIECE << SECOND_LAST_AT);
-                for (int f = e + 1; laws.two && f < segments.count; f++) {
-                    listSeconds(s, e, f);
+        // No second PIECE ends the loop: a longer one may have a WAY that a shorter one lacks.
+        private void listSeconds(int s, int e) {
+            for (int f = e + 1; f < segments.count; f++) {
+                for (int g = f; g < segments.count; g++) {
+                    if (segments.isPiece(f, g) && laws.brokenByTwo(s, e, f, g) == 0) {
+                        list(packed(bits(s, e) | bits(f, g), e, f, g));
+                    }
                 }
             }
         }
 
-        // All ends are tried: a later one may have a WAY to the first PIECE that an earlier one lacks.
-        private void listSeconds(int s, int e, int f) {
-            for (int g = f; g < segments.count; g++) {
-                if (segments.isPiece(f, g) && laws.brokenByTwo(s, e, f, g) == 0) {
-                    list(bits(s, e) | bits(f, g)
-                        | e << LAST_AT | f << SECOND_FIRST_AT | g << SECOND_LAST_AT);
-                }
-            }
+        private static int packed(int set, int e, int f, int g) {
+            return set | e << LAST_AT | f << SECOND_FIRST_AT | g << SECOND_LAST_AT;
         }
 
         private void list(int duty) {
@@ -1011,7 +999,17 @@ public final class BusBlocks {
         }
 
         private static int bits(int a, int b) {
-            return (1 << b + 1) - (1 << a);
+            return (2 << b) - (1 << a);
+        }
+
+        private int fewest() {
+            Arrays.fill(tooFew, 0L);
+            for (int duties = 0; duties <= segments.count; duties++) {
+                if (doesAll(this, 0, duties, duties)) {
+                    return duties;
+                }
+            }
+            return NONE;
         }
 
         /**
@@ -1028,7 +1026,7 @@ public final class BusBlocks {
             int s = lowest(~done);
             for (int i = roster.start[s]; i < roster.start[s + 1]; i++) {
                 int duty = roster.lawful[i];
-                if ((duty & done) == 0 && doesAll(roster, done | duty & ALL, duties - 1, all)) {
+                if ((duty & done) == 0 && doesAll(roster, done | (duty & ALL), duties - 1, all)) {
                     roster.chosen[all - duties] = duty;
                     return true;
                 }
@@ -1038,12 +1036,12 @@ public final class BusBlocks {
         }
 
         private boolean isHopeless(int done, int duties) {
-            int known = (int) (tooFew[done >> 4] >> (done & 15) * 4) & 15;
+            int known = (int) (tooFew[done >> 4] >> ((done & 15) * 4)) & 15;
             if (duties <= known) {
                 return true;
             }
-            int left = ~done & (1 << segments.count) - 1;
-            int follows = left << 1 & ~blockHeads;
+            int left = ((1 << segments.count) - 1) & ~done;
+            int follows = (left << 1) & ~blockHeads;
             int stretches = Integer.bitCount(left & ~follows);
             return stretches > (laws.two ? 2 * duties : duties);
         }
