@@ -515,7 +515,7 @@ public final class BusBlocks {
             this.pairs = pairs;
         }
 
-        /** Leaves open in the pairing what some pairing of least cost has, and no more than tolls allow. */
+        /** Leaves open to each row the columns whose tolls reach the cost: no other pair is of least cost. */
         void solve(int newSize) {
             size = Math.max(0, Math.min(newSize, MOST_TRIPS));
             pairs.clear();
@@ -667,7 +667,7 @@ public final class BusBlocks {
             }
         }
 
-        /** The least next trip that leaves the trips behind t a pairing of least cost. */
+        /** The least next trip that leaves a pairing of least cost with all that is bound before. */
         private int leastNext(int t) {
             int candidates = pairs.open[t] & links.after[t];
             for (int j = 0; j < trips.count; j++) {
@@ -675,7 +675,6 @@ public final class BusBlocks {
                     return j;
                 }
             }
-            pairs.open[t] &= ~links.after[t];
             return NONE;
         }
 

@@ -181,6 +181,13 @@ public final class PromisesTest {
         due("5 one forward too", x.tripOf(2, 3), 70);
         due("5 none left there", x.tripOf(3, 2), NONE);
         due("5 slack", x.plan(3), 30);
+        BusBlocks y = new BusBlocks();
+        y.trip(1, 2, 3, 4);
+        y.trip(5, 6, 7, 8);
+        y.drop(0);
+        for (int what = 0; what < 4; what++) {
+            due("5 all of it comes forward " + what, y.tripOf(0, what), 5 + what);
+        }
         due("5 last", x.drop(2), true);
         due("5 first", x.drop(0), true);
         due("5 only one", x.tripOf(0, 2), 40);
