@@ -1,11 +1,5 @@
 /** Each promise of the document by hand: ordinary inputs, the edges that it names, wrong inputs. */
-public final class PromisesTest {
-    private static final int NONE = BusBlocks.NONE;
-    private static final int MAX = Integer.MAX_VALUE;
-    private static final int MIN = Integer.MIN_VALUE;
-    private static int asked = 0;
-    private static int wrong = 0;
-
+public final class PromisesTest extends Checks {
     private PromisesTest() {
     }
 
@@ -37,22 +31,7 @@ public final class PromisesTest {
         apart();
         saves();
         about();
-        System.out.println(asked + " answers, " + wrong + " wrong");
-        if (wrong != 0) {
-            System.exit(1);
-        }
-    }
-
-    private static void due(String what, int got, int want) {
-        asked++;
-        if (got != want) {
-            wrong++;
-            System.out.println(what + ": answered " + got + ", due is " + want);
-        }
-    }
-
-    private static void due(String what, boolean got, boolean want) {
-        due(what, got ? 1 : 0, want ? 1 : 0);
+        end();
     }
 
     /** Trips at one place, each from the first minute to the second one. */
