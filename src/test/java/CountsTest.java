@@ -14,6 +14,7 @@ public final class CountsTest extends Checks {
         sixteenSegments();
         noSegment();
         twelveSegmentsOfOneBlock();
+        twelveSegmentsOfTwoBlocks();
         twelveSegmentsOfTwelveBlocks();
         twelveSegmentsOfSixteenTrips();
         thirteenAndTwelve();
@@ -257,6 +258,36 @@ public final class CountsTest extends Checks {
         due(bench, 1, "laws", 450, 450, 600, 0);
         due(bench, 1, "roster");
         dutyDue(bench, 0, 0, 11, NONE, NONE);
+    }
+
+    /** Only who drives SEGMENT 0 can drive those of the second BLOCK, and only all of them. */
+    private static void twelveSegmentsOfTwoBlocks() {
+        Bench bench = Bench.ofBusBlocks();
+        bench.ask("way", 0, 1, 0, 1);
+        bench.ask("relief", 0, 1);
+        bench.ask("relief", 1, 1);
+        bench.ask("trip", 0, 0, 0, 10);
+        for (int begin = 100; begin < 400; begin += 100) {
+            bench.ask("trip", 0, 0, begin, begin + 100);
+        }
+        for (int begin = 50; begin < 130; begin += 10) {
+            bench.ask("trip", 1, 1, begin, begin + 10);
+        }
+        due(bench, 2, "plan", 0);
+        due(bench, 12, "plan", 2);
+        due(bench, 1, "laws", 300, 300, 0, 1);
+        due(bench, 2, "roster");
+        dutyDue(bench, 0, 0, 0, 4, 11);
+        dutyDue(bench, 1, 1, 1, 2, 3);
+        due(bench, NONE, "duty", 2, 0);
+        due(bench, 1, "laws", 130, 300, 0, 1);
+        due(bench, 4, "roster");
+        dutyDue(bench, 0, 0, 0, 4, 11);
+        dutyDue(bench, 3, 3, 3, NONE, NONE);
+        due(bench, 1, "laws", 129, 300, 0, 1);
+        due(bench, 5, "roster");
+        dutyDue(bench, 0, 0, 0, NONE, NONE);
+        dutyDue(bench, 4, 4, 4, 5, 11);
     }
 
     private static void twelveSegmentsOfTwelveBlocks() {

@@ -19,6 +19,8 @@ public final class EdgesTest extends Checks {
         lawsInTheirOrder();
         cuts();
         savesJustSo();
+        wholeDay();
+        piecesOfAllNumbers();
         end();
     }
 
@@ -313,5 +315,71 @@ public final class EdgesTest extends Checks {
         due(bench, -100, "saves", 1, 2859);
         due(bench, 1, "plan", 0);
         due(bench, 10, "tripOf", 1, 2);
+    }
+
+    /** A trip from the first minute to the last can't be moved but by 0; one of a minute goes everywhere. */
+    private static void wholeDay() {
+        Bench bench = Bench.ofBusBlocks();
+        bench.ask("trip", 0, 0, 0, 2879);
+        bench.ask("trip", 0, 0, 0, 1);
+        for (int minutes : new int[] {-1, 1, MIN, MAX}) {
+            due(bench, 0, "move", 0, minutes);
+            due(bench, -100, "saves", 0, minutes);
+        }
+        due(bench, 1, "move", 0, 0);
+        due(bench, 0, "saves", 0, 0);
+        due(bench, 0, "tripOf", 0, 2);
+        due(bench, 2879, "tripOf", 0, 3);
+        due(bench, 0, "move", 1, 2879);
+        due(bench, 1, "move", 1, 2878);
+        due(bench, 2878, "tripOf", 1, 2);
+        due(bench, 2879, "tripOf", 1, 3);
+        due(bench, 0, "move", 1, 1);
+        due(bench, 0, "move", 1, -2879);
+        due(bench, 1, "move", 1, -2878);
+        due(bench, 0, "tripOf", 1, 2);
+    }
+
+    /** clash with each number from below NONE to behind the last SEGMENT at each argument. */
+    private static void piecesOfAllNumbers() {
+        int[] blockOf = {0, 0, 0, 1, 1};
+        int most = blockOf.length;
+        for (int a = -2; a <= most; a++) {
+            for (int b = -2; b <= most; b++) {
+                Bench bench = segments(0, 10, 100, 110, 200, 210);
+                bench.ask("relief", 1, 1);
+                bench.ask("trip", 1, 1, 300, 310);
+                bench.ask("trip", 1, 1, 400, 410);
+                bench.ask("laws", 2880, 2880, 0, 0);
+                for (int c = -2; c <= most; c++) {
+                    for (int d = -2; d <= most; d++) {
+                        due(bench, clashOf(blockOf, a, b, c, d), "clash", a, b, c, d);
+                    }
+                }
+            }
+        }
+    }
+
+    /** Where two PIECES aren't allowed and the other LAWS are wide. */
+    private static int clashOf(int[] blockOf, int a, int b, int c, int d) {
+        if (!isPiece(blockOf, a, b)) {
+            return NONE;
+        }
+        if (c == NONE) {
+            return 0;
+        }
+        if (!isPiece(blockOf, c, d)) {
+            return NONE;
+        }
+        for (int s = a; s <= b; s++) {
+            if (s >= c && s <= d) {
+                return NONE;
+            }
+        }
+        return 1;
+    }
+
+    private static boolean isPiece(int[] blockOf, int a, int b) {
+        return a >= 0 && b >= a && b < blockOf.length && blockOf[a] == blockOf[b];
     }
 }

@@ -25,7 +25,7 @@ public final class RandomRunsTest {
         mostTrips = random.nextInt(8) == 0 ? 16 : 2 + random.nextInt(11);
     }
 
-    /** Other runs than those of .ci/run: how many, and behind the file's name from which seed on. */
+    /** Behind the file's name: how many runs, and from which seed on, if others than those of .ci/run. */
     public static void main(String[] args) {
         int runs = args.length > 1 ? Integer.parseInt(args[1]) : RUNS;
         long seed = args.length > 2 ? Long.parseLong(args[2]) : 0;

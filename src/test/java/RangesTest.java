@@ -197,6 +197,7 @@ public final class RangesTest extends Checks {
     }
 
     private void newObject() {
+        alike("a new object", before, Picture.of(Bench::ofReference, story));
         for (int x : new int[] {0, 1, 15, 16, NONE, MIN, MAX}) {
             refused(0, "drop", x);
             refused(0, "move", x, 0);
